@@ -109,7 +109,7 @@ public final class FileRounds {
         if (p < 0 || p > MAX_LOSS) {
             return BAD;
         }
-        if (now.joined >= MAX_LISTENERS) {
+        if (!now.hasRoom()) {
             return FULL;
         }
         past.keep(now);
@@ -661,11 +661,13 @@ public final class FileRounds {
             return l >= 0 && l < joined;
         }
 
+        boolean hasRoom() {
+            return joined >= 0 && joined < MAX_LISTENERS;
+        }
+
+        /** Its number; called only while there is room. */
         int addListener(int loss) {
             int l = joined;
-            if (l < 0 || l >= MAX_LISTENERS) {
-                return FULL;
-            }
             listeners[l].enter(loss, sender.clock);
             joined = l + 1;
             return l;

@@ -50,6 +50,10 @@ public final class ListenerTest {
         Due.is("a fifth", x.join(0), FileRounds.FULL);
         Due.is("BAD first", x.join(100), BAD);
         Due.is("four came", x.count(4), 4);
+        Due.is("the last changes: four", x.count(8), 4);
+        x.undo();
+        Due.is("FULL was no change", x.count(4), 3);
+        Due.is("join(50) anew", x.join(50), 3);
         listenerIs(x, 1, 0, 2, 0, NONE, 0, 0);
         listenerIs(x, 3, 50, 2, 0, NONE, 0, 0);
         holdsAre(x, 3, 0, 0, NONE, 4);

@@ -9,6 +9,7 @@ public final class TextTest {
         layRefuses();
         layBeginsAnew();
         layWithoutTable();
+        fewerLettersAndFiles();
         Due.end();
     }
 
@@ -154,5 +155,24 @@ public final class TextTest {
         Due.is("six FILES", x.count(0), 6);
         Due.is("the sixth", x.file(5, 0), 1);
         Due.is("a seventh", x.file(6, 0), FileRounds.BAD);
+    }
+
+    private static void fewerLettersAndFiles() {
+        FileRounds x = Due.laid("f1,0,1;f1,0,2;f1,0,9;t3,5;");
+        x.join(0);
+        x.tick(5);
+        x.wipe();
+        Due.write(x, "f1,0,1");
+        Due.is("no ; though one stood there", x.fault(), 0);
+        x.write(';');
+        Due.write(x, "f2,0,2;");
+        Due.is("lay() of two", x.lay(), 2);
+        Due.is("WEIGHTS together", x.count(7), 3);
+        Due.is("E without", x.count(2), 6);
+        Due.is("join(0)", x.join(0), 0);
+        x.tick(6);
+        Due.is("WHOLE of both alone", x.listener(0, 4), 3);
+        Due.is("lay() again", x.lay(), 2);
+        Due.is("TICKS anew", x.count(1), 0);
     }
 }

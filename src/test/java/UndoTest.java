@@ -7,6 +7,7 @@ public final class UndoTest {
         onlyFour();
         newChangesBehindUndo();
         refusedCallsAreNoChange();
+        joinsAnewBehindUndo();
         questionsAreNoChange();
         textIsNoChange();
         Due.end();
@@ -129,6 +130,24 @@ public final class UndoTest {
         Due.is("no LISTENER", x.count(4), 0);
         Due.is("join again", x.join(9), 0);
         Due.is("its LOSS", x.listener(0, 0), 9);
+    }
+
+    private static void joinsAnewBehindUndo() {
+        FileRounds x = new FileRounds();
+        x.join(50);
+        x.tick(30);
+        x.undo();
+        x.undo();
+        x.tick(31);
+        x.join(3);
+        int[] due = {3, 31, 0, FileRounds.NONE, 0, 0};
+        for (int what = 0; what < 6; what++) {
+            Due.is("listener(0, " + what + ")", x.listener(0, what), due[what]);
+        }
+        for (int f = 0; f < 3; f++) {
+            Due.is("holds(0, " + f + ", 0)", x.holds(0, f, 0), 0);
+            Due.is("holds(0, " + f + ", 1)", x.holds(0, f, 1), FileRounds.NONE);
+        }
     }
 
     private static void questionsAreNoChange() {

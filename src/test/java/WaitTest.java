@@ -44,6 +44,10 @@ public final class WaitTest {
         for (int b = 0; b < 100; b++) {
             Due.is("waits(0, " + b + ") behind 1", x.waits(0, b), due[(b + 1) % 3]);
         }
+        Due.is("waits(0, 99) ahead of a mean", x.waits(0, 99), due[1]);
+        x.tick(1);
+        Due.is("mean of what stands then", x.mean(0, 1, 2), due[2]);
+        x.undo();
         Due.is("mean(0, 2, 0)", x.mean(0, 2, 0), Float.floatToIntBits(3.5f));
         Due.is("mean(0, 2, 1)", x.mean(0, 2, 1), 3);
         Due.is("mean(0, 2, 2)", x.mean(0, 2, 2), 4);
@@ -56,14 +60,19 @@ public final class WaitTest {
         FileRounds x = Due.laid(text);
         boolean last = false;
         boolean firstBeyond = false;
+        int longest = 0;
         for (int b = 0; b < 100; b++) {
             int due = waited(x, text, 0, b);
             last |= due == 400;
+            longest = due == 400 ? b : longest;
             firstBeyond |= due == 401;
             Due.is("waits(0, " + b + ")", x.waits(0, b), due <= 400 ? due : NONE);
         }
         Due.is("one waits 400", last ? 1 : 0, 1);
         Due.is("one would wait 401", firstBeyond ? 1 : 0, 1);
+        x.tick(longest);
+        Due.is("mean(0, 1, 2) of 400", x.mean(0, 1, 2), 400);
+        Due.is("mean(0, 1, 0) of 400", x.mean(0, 1, 0), Float.floatToIntBits(400f));
     }
 
     /**
