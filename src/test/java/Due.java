@@ -1,9 +1,15 @@
-/** Counts the answers of one test and tells those that are not as due. */
+/** Counts the answers of one test and tells those that are not as due, under the sentence they belong to. */
 final class Due {
     private static int asked = 0;
     private static int wrong = 0;
+    private static String sentence = "";
 
     private Due() {
+    }
+
+    /** The words of the document that the answers from here on stand for. */
+    static void sentence(String words) {
+        sentence = words + " | ";
     }
 
     static void is(String call, long got, long want) {
@@ -11,8 +17,19 @@ final class Due {
         if (got != want) {
             wrong++;
             if (wrong <= 40) {
-                System.out.println(call + " answered " + got + ", due is " + want);
+                System.out.println(sentence + call + " answered " + got + ", due is " + want);
             }
+        }
+    }
+
+    /** Two objects stand alike in all that can be asked, and go back alike, too. */
+    static void alike(String when, FileRounds x, FileRounds y) {
+        asked++;
+        String got = Standing.of(x) + Standing.ofTheChangeBefore(x);
+        String want = Standing.of(y) + Standing.ofTheChangeBefore(y);
+        if (!got.equals(want)) {
+            wrong++;
+            System.out.println(sentence + when + " stands\n  " + got + "\ndue is\n  " + want);
         }
     }
 
