@@ -149,6 +149,13 @@ public final class Promise04FaultTest {
         String longer = "t3,5;".repeat(38) + "t13,45;" + "t";
         Due.is("one of a single letter", faultOf(longer), 197);
         Due.is("the 200th letter", faultOf("t13,5;".repeat(4) + "t3,5;".repeat(35) + "x"), 199);
+        String ahead = "t3,5;".repeat(38);
+        for (String last : new String[] {"f12,6,9;t3", "f1,0,1;t3,", "t13,45;t3,", "t13,45;f1,", "t3,5;t13,9", "t3,5;t4,19"}) {
+            int place = 191 + last.indexOf(';');
+            Due.is("broken off by the 200th letter, " + last, faultOf(ahead + last), place);
+        }
+        Due.is("a letter alone in the 200th place", faultOf("t13,5;".repeat(4) + "t3,5;".repeat(35) + "f"), 199);
+        Due.is("the other one there", faultOf("t13,5;".repeat(4) + "t3,5;".repeat(35) + "t"), 199);
         for (int items = 0; items < 40; items++) {
             Due.is("behind " + items, faultOf("t3,5;".repeat(items) + "x"), 5 * items);
         }

@@ -19,6 +19,7 @@ public final class Promise09JoinTest {
         withoutLossAll();
         lossByTheRuleToTheEnd();
         anewBehindUndo();
+        anewBehindLay();
         Due.end();
     }
 
@@ -209,6 +210,30 @@ public final class Promise09JoinTest {
         for (int f = 0; f < 3; f++) {
             Due.is("holds(0, " + f + ", 0)", x.holds(0, f, 0), 0);
             Due.is("holds(0, " + f + ", 1)", x.holds(0, f, 1), NONE);
+        }
+    }
+
+    private static void anewBehindLay() {
+        Due.sentence("9: LAID: no LISTENERS; one who comes then");
+        FileRounds x = Due.laid("f1,0,1;f2,1,3;t3,9;");
+        for (int l = 0; l < 4; l++) {
+            x.join(l);
+        }
+        x.tick(40);
+        Due.is("WHOLE of both", x.listener(0, 4), 3);
+        x.lay();
+        x.tick(2);
+        int[] due = {5, 2, 0, NONE, 0, 0};
+        for (int l = 0; l < 4; l++) {
+            Due.is("join(5)", x.join(5), l);
+            for (int what = 0; what < 6; what++) {
+                Due.is("listener(" + l + ", " + what + ")", x.listener(l, what), due[what]);
+            }
+            for (int f = 0; f < 2; f++) {
+                Due.is("holds(" + l + ", " + f + ", 0)", x.holds(l, f, 0), 0);
+                Due.is("holds(" + l + ", " + f + ", 1)", x.holds(l, f, 1), NONE);
+                Due.is("holds(" + l + ", " + f + ", 2)", x.holds(l, f, 2), f + 1);
+            }
         }
     }
 }

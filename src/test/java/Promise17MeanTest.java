@@ -94,6 +94,8 @@ public final class Promise17MeanTest {
             int due = what == 0 ? Float.floatToIntBits(381f) : what == 1 ? 381 : 400;
             Due.is("400, 399, .., 362, " + what, x.mean(0, 39, what), due);
             Due.is("and the none behind them, " + what, x.mean(0, 40, what), NONE);
+            int first = what == 0 ? Float.floatToIntBits(400f) : 400;
+            Due.is("of 400 alone, " + what, x.mean(0, 1, what), first);
         }
     }
 
